@@ -1,0 +1,50 @@
+/** Short ways to tell an object clauses. */
+final class Tell {
+    private Tell() {
+    }
+
+    static PlanClauses withVariables(int n) {
+        PlanClauses x = new PlanClauses();
+        x.variables(n);
+        return x;
+    }
+
+    static void clause(PlanClauses x, int... literals) {
+        for (int literal : literals) {
+            Due.holds("literal " + literal + " is taken", x.literal(literal) > 0);
+        }
+        Due.holds("the clause is taken", x.clause() > 0);
+    }
+
+    /** All clauses that together say: an even (or odd) number of these variables is true. */
+    static void parity(PlanClauses x, boolean odd, int... variables) {
+        int rows = 1 << variables.length;
+        for (int row = 0; row < rows; row++) {
+            if ((Integer.bitCount(row) % 2 == 1) != odd) {
+                int[] literals = new int[variables.length];
+                for (int k = 0; k < literals.length; k++) {
+                    literals[k] = (row >> k & 1) == 1 ? -variables[k] : variables[k];
+                }
+                clause(x, literals);
+            }
+        }
+    }
+
+    /** Each pigeon has a hole, no hole has two: variable 1 + place[pigeon * holes + hole]. */
+    static void pigeons(PlanClauses x, int pigeons, int holes, int[] place) {
+        for (int p = 0; p < pigeons; p++) {
+            int[] anyHole = new int[holes];
+            for (int h = 0; h < holes; h++) {
+                anyHole[h] = 1 + place[p * holes + h];
+            }
+            clause(x, anyHole);
+        }
+        for (int h = 0; h < holes; h++) {
+            for (int p = 0; p < pigeons; p++) {
+                for (int q = p + 1; q < pigeons; q++) {
+                    clause(x, -1 - place[p * holes + h], -1 - place[q * holes + h]);
+                }
+            }
+        }
+    }
+}
