@@ -18,7 +18,7 @@ public final class PlanClauses {
     /** Every row of clauses has this room: 400 told, one on trial and 60 models passed are less. */
     private static final int ROOM = 512;
     /** Far above what 400 clauses over 30 variables can need. */
-    private static final int MOST_ROUNDS = 10_000_000;
+    private static final int MOST_ROUNDS = 10000000;
     private static final int NO_MODEL = -1;
     private static final int NO_STATE = -1;
 

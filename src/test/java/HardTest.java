@@ -12,6 +12,7 @@ final class HardTest {
         coreBehindFreeVariables();
         pigeons();
         parities();
+        sums();
         modelsFarApart();
         mostClauses();
     }
@@ -115,9 +116,63 @@ final class HardTest {
             }
             Tell.clause(x, first[v] == 1 ? v : -v);
         }
-        while (x.count(1) > clauses) {
+        for (int many = x.count(1) - clauses; many > 0; many--) {
             x.drop();
         }
+    }
+
+    /** Sums of 5 variables, even or odd: elimination tells at which of them no model is left. */
+    private static void sums() {
+        for (int seed = 0; seed < 8; seed++) {
+            Random random = new Random(seed);
+            int n = 20 + random.nextInt(11);
+            PlanClauses x = Tell.withVariables(n);
+            List<long[]> rows = new ArrayList<>();
+            int clash = -1;
+            for (int e = 0; e < 25; e++) {
+                int[] five = fiveOf(n, random);
+                boolean odd = random.nextBoolean();
+                Tell.parity(x, odd, five);
+                long bits = odd ? 1 : 0;
+                for (int v : five) {
+                    bits |= 1L << v;
+                }
+                if (clash < 0 && reduce(rows, bits) == 1) {
+                    clash = e;
+                }
+            }
+            long models = clash >= 0 ? 0 : Math.min(60, 1L << (n - rows.size()));
+            Due.is("sums: models, seed " + seed, x.models(), models);
+            int culprit = x.culprit();
+            Due.is("sums: culprit, seed " + seed, culprit < 0 ? -1 : culprit / 16, clash);
+            checkFirst(x, 5);
+        }
+    }
+
+    /** What is left of a sum when the rows are taken from it; a new row if variables are left. */
+    private static long reduce(List<long[]> rows, long bits) {
+        for (long[] row : rows) {
+            if ((bits & row[0]) != 0) {
+                bits ^= row[1];
+            }
+        }
+        if (bits > 1) {
+            rows.add(new long[] {Long.highestOneBit(bits), bits});
+        }
+        return bits;
+    }
+
+    private static int[] fiveOf(int n, Random random) {
+        List<Integer> all = new ArrayList<>();
+        for (int v = 1; v <= n; v++) {
+            all.add(v);
+        }
+        Collections.shuffle(all, random);
+        int[] five = new int[5];
+        for (int k = 0; k < 5; k++) {
+            five[k] = all.get(k);
+        }
+        return five;
     }
 
     /** Models that differ in variables far from the last. */
@@ -141,7 +196,7 @@ final class HardTest {
             Random random = new Random(seed);
             PlanClauses x = Tell.withVariables(30);
             int size = 3 + seed % 4;
-            while (x.count(1) < 400 && x.sat(0) == 1) {
+            for (int turn = 0; turn < 4000 && x.count(1) < 400 && x.sat(0) == 1; turn++) {
                 int literal = 1 + random.nextInt(30);
                 x.literal(random.nextBoolean() ? literal : -literal);
                 if (x.count(2) == size) {
