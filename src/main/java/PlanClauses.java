@@ -15,10 +15,15 @@ public final class PlanClauses {
     private static final int MOST_STEPS = 5;
     private static final int STATES = 1 << MOST_FACTS;
 
-    /** Every row of clauses has this room: 400 told, one on trial and 60 models passed are less. */
-    private static final int ROOM = 512;
-    /** Far above what 400 clauses over 30 variables can need. */
-    private static final int MOST_ROUNDS = 10000000;
+    /** A level of truths asked for, and a guess for each variable. */
+    private static final int MOST_LEVELS = MOST_VARIABLES + 1;
+    private static final int MOST_LEARNED = 2048;
+    /**
+     * No search comes near: a clash makes a conclusion of a guess. Written as a number of 30 digits, a
+     * guess 0 and a conclusion 1, the trail only grows, so there are fewer than 2 to the 30th clashes,
+     * and ahead of each one at most 32 rounds.
+     */
+    private static final long MOST_ROUNDS = 1L << 40;
     private static final int NO_MODEL = -1;
     private static final int NO_STATE = -1;
 
@@ -100,14 +105,14 @@ public final class PlanClauses {
         if (!isVariable(v)) {
             return BAD;
         }
-        return found.truth(0, v);
+        return found.reach(1) ? found.truth(0, v) : NONE;
     }
 
     public int model(int i, int v) {
         if (i < 0 || i >= MOST_ANSWERS || !isVariable(v)) {
             return BAD;
         }
-        return found.truth(i, v);
+        return found.reach(i + 1) ? found.truth(i, v) : NONE;
     }
 
     public int models() {
@@ -119,19 +124,15 @@ public final class PlanClauses {
         if (!isVariable(v)) {
             return BAD;
         }
-        int first = found.truth(0, v);
-        if (first == NONE) {
+        boolean canBeTrue = found.allow(v);
+        if (canBeTrue == found.allow(-v)) {
             return NONE;
         }
-        int other = first == 1 ? -v : v;
-        return found.allow(other) ? NONE : first;
+        return canBeTrue ? 1 : 0;
     }
 
     public int culprit() {
-        if (found.reach(1)) {
-            return NONE;
-        }
-        return found.firstWithout();
+        return found.allow(0) ? NONE : found.firstWithout();
     }
 
     private boolean isVariable(int v) {
@@ -261,35 +262,35 @@ public final class PlanClauses {
 
     /** Clauses as sets of variables: bit v - 1 stands for variable v. */
     private static final class Rows {
-        final int[] wantTrue = new int[ROOM];
-        final int[] wantFalse = new int[ROOM];
+        final int[] wantTrue;
+        final int[] wantFalse;
         int size;
         int oldest;
+
+        Rows(int room) {
+            wantTrue = new int[room];
+            wantFalse = new int[room];
+        }
 
         void clear() {
             size = 0;
             oldest = 0;
         }
 
-        void copy(Rows from, int rows) {
-            int length = Math.max(0, Math.min(rows, from.size));
-            System.arraycopy(from.wantTrue, 0, wantTrue, 0, length);
-            System.arraycopy(from.wantFalse, 0, wantFalse, 0, length);
-            size = length;
-            oldest = 0;
-        }
-
         /** Where there is no room left, the oldest row makes place. */
         void add(int trues, int falses) {
+            int room = wantTrue.length;
             int place = size;
-            if (size < ROOM) {
+            if (size < room) {
                 size++;
             } else {
                 place = oldest;
-                oldest = (oldest + 1) % ROOM;
+                oldest = oldest + 1 < room ? oldest + 1 : 0;
             }
-            wantTrue[place] = trues;
-            wantFalse[place] = falses;
+            if (place < room) {
+                wantTrue[place] = trues;
+                wantFalse[place] = falses;
+            }
         }
     }
 
@@ -300,7 +301,7 @@ public final class PlanClauses {
         final int[] draft = new int[MOST_LITERALS];
         final int[] literals = new int[MOST_CLAUSES * MOST_LITERALS];
         final int[] sizes = new int[MOST_CLAUSES];
-        final Rows rows = new Rows();
+        final Rows rows = new Rows(MOST_CLAUSES);
 
         boolean draftHas(int variable) {
             for (int k = 0; k < draftSize; k++) {
@@ -348,43 +349,95 @@ public final class PlanClauses {
         }
     }
 
-    /** The models found so far, from the least on, and trials whether there are others. */
+    /** The models found so far, from the least on, and which truths some model has. */
     private static final class Models {
         final Formula formula;
-        final Search inOrder = new Search();
-        final Search trial = new Search();
+        final Search search;
         final int[] rows = new int[MOST_ANSWERS];
         int size;
+        int seenTrue;
+        int seenFalse;
         boolean begun;
+        boolean complete;
 
         Models(Formula formula) {
             this.formula = formula;
+            search = new Search(formula);
         }
 
         void forget() {
             begun = false;
-            size = 0;
+        }
+
+        private void begin() {
+            if (!begun) {
+                begun = true;
+                complete = false;
+                size = 0;
+                seenTrue = 0;
+                seenFalse = 0;
+                search.begin(formula.rows.size);
+            }
+        }
+
+        private void see(int model) {
+            seenTrue |= model;
+            seenFalse |= ~model;
         }
 
         /** Whether there are so many models. */
         boolean reach(int many) {
-            if (!begun) {
-                inOrder.begin(formula, formula.rows.size);
-                begun = true;
-            }
-            while (size < many && size < MOST_ANSWERS) {
-                int next = inOrder.next();
+            begin();
+            while (size < many && size < MOST_ANSWERS && !complete) {
+                int last = size == 0 ? NO_MODEL : rows[size - 1];
+                int next = last == NO_MODEL ? search.find(0, 0) : greater(last);
                 if (next == NO_MODEL) {
-                    return false;
+                    complete = true;
+                } else {
+                    rows[size] = least(next, last == NO_MODEL ? 0 : sameAhead(last, next) + 1);
+                    see(rows[size]);
+                    size++;
                 }
-                rows[size] = next;
-                size++;
             }
             return size >= many;
         }
 
+        /** Some model behind this one, with as many of the first truths as in any. */
+        private int greater(int last) {
+            for (int v = formula.width - 1; v >= 0; v--) {
+                int variable = 1 << v;
+                if ((last & variable) == 0) {
+                    int ahead = variable - 1;
+                    int next = search.find(last & ahead | variable, ~last & ahead);
+                    if (next != NO_MODEL) {
+                        return next;
+                    }
+                }
+            }
+            return NO_MODEL;
+        }
+
+        /** The least model of those that have the first truths, so many, of this one. */
+        private int least(int model, int kept) {
+            int best = model;
+            for (int v = kept; v < formula.width; v++) {
+                int variable = 1 << v;
+                if ((best & variable) != 0) {
+                    int ahead = variable - 1;
+                    int less = search.find(best & ahead, ~best & ahead | variable);
+                    best = less == NO_MODEL ? best : less;
+                }
+            }
+            return best;
+        }
+
+        /** How many of the first truths are the same. */
+        private static int sameAhead(int one, int other) {
+            return Integer.numberOfTrailingZeros(one ^ other);
+        }
+
         int truth(int place, int variable) {
-            if (place < 0 || place >= MOST_ANSWERS || !reach(place + 1)) {
+            if (place < 0 || place >= size || place >= MOST_ANSWERS) {
                 return NONE;
             }
             return (rows[place] >> (variable - 1)) & 1;
@@ -392,20 +445,19 @@ public final class PlanClauses {
 
         /** Whether there is a model in which the literal is true; 0 is true in all. */
         boolean allow(int literal) {
-            if (!reach(1)) {
+            begin();
+            int variable = literal == 0 ? 0 : 1 << (Math.abs(literal) - 1);
+            int wantTrue = literal > 0 ? variable : 0;
+            int wantFalse = literal < 0 ? variable : 0;
+            if ((wantTrue & seenTrue) != 0 || (wantFalse & seenFalse) != 0) {
+                return true;
+            }
+            int model = search.find(wantTrue, wantFalse);
+            if (model == NO_MODEL) {
                 return false;
             }
-            if (literal == 0) {
-                return true;
-            }
-            int variable = 1 << (Math.abs(literal) - 1);
-            boolean firstHas = (rows[0] & variable) != 0;
-            if (firstHas == literal > 0) {
-                return true;
-            }
-            trial.begin(formula, formula.rows.size);
-            trial.require(literal > 0 ? variable : 0, literal > 0 ? 0 : variable);
-            return trial.next() != NO_MODEL;
+            see(model);
+            return true;
         }
 
         /** For clauses without a model: more clauses never have more models, so halving finds it. */
@@ -414,13 +466,14 @@ public final class PlanClauses {
             int high = formula.rows.size - 1;
             for (int round = 0; round < MOST_CLAUSES && low < high; round++) {
                 int middle = (low + high) >> 1;
-                trial.begin(formula, middle + 1);
-                if (trial.next() == NO_MODEL) {
+                search.begin(middle + 1);
+                if (search.find(0, 0) == NO_MODEL) {
                     high = middle;
                 } else {
                     low = middle + 1;
                 }
             }
+            search.end();
             return low;
         }
     }
@@ -429,19 +482,17 @@ public final class PlanClauses {
     private static final class Trail {
         int trues;
         int falses;
-        int guesses;
         int length;
         int level;
         final int[] order = new int[MOST_VARIABLES];
         final int[] whyTrue = new int[MOST_VARIABLES];
         final int[] whyFalse = new int[MOST_VARIABLES];
-        /** At a level's place: the variables that had a truth ahead of its guess. */
-        final int[] ahead = new int[MOST_VARIABLES + 1];
+        /** At a level's place: the variables that had a truth ahead of it. */
+        final int[] ahead = new int[MOST_LEVELS + 1];
 
         void clear() {
             trues = 0;
             falses = 0;
-            guesses = 0;
             length = 0;
             level = 0;
         }
@@ -462,17 +513,32 @@ public final class PlanClauses {
             }
         }
 
-        /** Always the first open variable, always 0: so the first model found is the least. */
-        void guess(int all) {
-            if (level >= MOST_VARIABLES) {
+        /** A new level: truths that no clause asks for. */
+        void suppose(int supposedTrue, int supposedFalse) {
+            if (level >= MOST_LEVELS) {
                 return;
             }
-            int open = all & ~(trues | falses);
-            int variable = open & -open;
             level++;
             ahead[level] = trues | falses;
-            guesses |= variable;
-            conclude(variable, 0, variable);
+            int open = (supposedTrue | supposedFalse) & ~ahead[level];
+            for (int v = 0; v < MOST_VARIABLES && open >> v != 0; v++) {
+                int variable = open & 1 << v;
+                if (variable != 0) {
+                    conclude(variable, supposedTrue & variable, supposedFalse & variable);
+                }
+            }
+        }
+
+        /** Back to the end of a level. */
+        void back(int target) {
+            if (target < 0 || target >= level) {
+                return;
+            }
+            int kept = ahead[target + 1];
+            trues &= kept;
+            falses &= kept;
+            length = Integer.bitCount(kept);
+            level = target;
         }
 
         /**
@@ -485,50 +551,60 @@ public final class PlanClauses {
             while (target + 1 < level && (others & ~ahead[target + 1]) != 0) {
                 target++;
             }
-            if (target < level) {
-                int kept = ahead[target + 1];
-                trues &= kept;
-                falses &= kept;
-                guesses &= kept;
-                length = Integer.bitCount(kept);
-                level = target;
-            }
+            back(target);
             conclude(variable, wantTrue, wantFalse);
         }
     }
 
-    /** Finds models from the least on, and learns a clause from each row that cannot be one. */
+    /** Finds a model of the formula's first clauses, and learns a clause from each clash. */
     private static final class Search {
-        final Rows firm = new Rows();
-        final Rows learned = new Rows();
+        final Formula formula;
+        final Rows learned = new Rows(MOST_LEARNED);
         final Trail trail = new Trail();
-        int all;
+        final int[] weights = new int[MOST_VARIABLES];
+        int clauses;
         int clashTrue;
         int clashFalse;
         boolean ended;
 
-        void begin(Formula formula, int clauses) {
-            firm.copy(formula.rows, clauses);
+        Search(Formula formula) {
+            this.formula = formula;
+        }
+
+        void begin(int firstClauses) {
+            clauses = Math.max(0, Math.min(firstClauses, formula.rows.size));
             learned.clear();
             trail.clear();
-            all = (1 << formula.width) - 1;
             ended = false;
         }
 
-        void require(int wantTrue, int wantFalse) {
-            firm.add(wantTrue, wantFalse);
+        /** It is known that there is no model. */
+        void end() {
+            ended = true;
         }
 
-        int next() {
-            for (int round = 0; round < MOST_ROUNDS && !ended; round++) {
+        /** Some model that has the truths asked for. What was learned holds for later searches, too. */
+        int find(int wantTrue, int wantFalse) {
+            int asked = wantTrue | wantFalse;
+            int firstLevel = asked == 0 ? 0 : 1;
+            trail.back(0);
+            for (long round = 0; round < MOST_ROUNDS && !ended; round++) {
                 if (!propagate()) {
+                    if (trail.level <= firstLevel) {
+                        ended = trail.level == 0;
+                        return NO_MODEL;
+                    }
                     learn();
-                } else if ((trail.trues | trail.falses) != all) {
-                    trail.guess(all);
+                } else if ((wantTrue & trail.falses) != 0 || (wantFalse & trail.trues) != 0) {
+                    return NO_MODEL;
+                } else if (trail.level < firstLevel) {
+                    trail.suppose(wantTrue, wantFalse);
                 } else {
-                    int model = trail.trues;
-                    pass();
-                    return model;
+                    int variable = heaviest();
+                    if (variable == 0) {
+                        return trail.trues;
+                    }
+                    trail.suppose(0, variable);
                 }
             }
             return NO_MODEL;
@@ -539,15 +615,15 @@ public final class PlanClauses {
             int before = -1;
             for (int round = 0; round <= MOST_VARIABLES && trail.length != before; round++) {
                 before = trail.length;
-                if (!holds(firm) || !holds(learned)) {
+                if (!holds(formula.rows, clauses) || !holds(learned, learned.size)) {
                     return false;
                 }
             }
             return true;
         }
 
-        private boolean holds(Rows rows) {
-            for (int i = 0; i < rows.size; i++) {
+        private boolean holds(Rows rows, int many) {
+            for (int i = 0; i < many; i++) {
                 int wantTrue = rows.wantTrue[i];
                 int wantFalse = rows.wantFalse[i];
                 if (((wantTrue & trail.trues) | (wantFalse & trail.falses)) == 0) {
@@ -570,10 +646,6 @@ public final class PlanClauses {
          * first, until one variable of the level is left: that one could have been concluded earlier.
          */
         private void learn() {
-            if (trail.level < 1) {
-                ended = true;
-                return;
-            }
             int wantTrue = clashTrue;
             int wantFalse = clashFalse;
             int earlier = trail.ahead[trail.level];
@@ -593,15 +665,41 @@ public final class PlanClauses {
             trail.revise((wantTrue | wantFalse) & ~earlier, wantTrue, wantFalse);
         }
 
-        /** Forbids the model just found: its guesses alone lead to it. */
-        private void pass() {
-            if (trail.level < 1) {
-                ended = true;
-                return;
+        /**
+         * The open variable that weighs most in the clauses not yet true; 0: all are true. A clause
+         * weighs four times as much as one with a literal more, for it clashes sooner: guesses in the
+         * variables' order would try all rows of those that a clash at the end has no use for.
+         */
+        private int heaviest() {
+            for (int v = 0; v < MOST_VARIABLES; v++) {
+                weights[v] = 0;
             }
-            int guesses = trail.guesses;
-            firm.add(guesses, 0);
-            trail.revise(guesses & ~trail.ahead[trail.level], guesses, 0);
+            for (int i = 0; i < clauses; i++) {
+                int wantTrue = formula.rows.wantTrue[i];
+                int wantFalse = formula.rows.wantFalse[i];
+                if (((wantTrue & trail.trues) | (wantFalse & trail.falses)) == 0) {
+                    weigh(i, (wantTrue | wantFalse) & ~(trail.trues | trail.falses));
+                }
+            }
+            int best = 0;
+            int most = 0;
+            for (int v = 0; v < MOST_VARIABLES; v++) {
+                if (weights[v] > most) {
+                    most = weights[v];
+                    best = 1 << v;
+                }
+            }
+            return best;
+        }
+
+        private void weigh(int clause, int open) {
+            int weight = 1 << 2 * (MOST_LITERALS - Integer.bitCount(open));
+            for (int k = 0; k < formula.sizes[clause]; k++) {
+                int v = Math.abs(formula.literalOf(clause, k)) - 1;
+                if ((open >> v & 1) != 0) {
+                    weights[v] += weight;
+                }
+            }
         }
 
         private static boolean areSeveral(int variables) {

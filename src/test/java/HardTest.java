@@ -1,4 +1,5 @@
 import java.util.ArrayList;
+import java.util.Arrays;
 import java.util.Collections;
 import java.util.List;
 import java.util.Random;
@@ -15,6 +16,10 @@ final class HardTest {
         sums();
         modelsFarApart();
         mostClauses();
+        chains();
+        graphs();
+        majorities();
+        byTrying();
     }
 
     /** What cannot be is all at the end, behind 27 variables that do not matter. */
@@ -209,6 +214,270 @@ final class HardTest {
                 x.drop();
             }
             checkFirst(x, size);
+        }
+    }
+
+    /**
+     * Groups of variables between links: whatever truths a group has, the link ahead of it calls for
+     * the one behind it; the first and the last are one, and cannot be. The variables are numbered by
+     * lot, but for the first turns, in which the links are the last, the first ones.
+     */
+    private static void chains() {
+        int[][] groups = {{3, 3, 3, 4, 4, 3}, {3, 3, 3, 4, 4, 3}, {4, 4, 4, 3}, {2, 3, 2, 3, 2, 3, 2}, {4, 4, 4, 4}, {3, 3, 3, 3, 3, 3}};
+        for (int turn = 0; turn < 60; turn++) {
+            Random random = new Random(turn);
+            int[] sizes = groups[turn % groups.length];
+            int[] numbers = numbersOf30(turn, random);
+            List<int[]> clauses = chain(sizes, numbers);
+            int[] missing = clauses.get(0);
+            if (turn > 1) {
+                Collections.shuffle(clauses, random);
+            }
+            PlanClauses x = Tell.withVariables(30);
+            for (int[] clause : clauses) {
+                Tell.clause(x, clause);
+            }
+            Due.is("chain " + turn + ": sat", x.sat(0), 0);
+            Due.is("chain " + turn + ": culprit", x.culprit(), clauses.size() - 1);
+            Due.is("chain " + turn + ": models", x.models(), 0);
+            Due.is("chain " + turn + ": forced", x.forced(30), PlanClauses.NONE);
+            PlanClauses y = Tell.withVariables(30);
+            for (int[] clause : clauses) {
+                if (clause != missing) {
+                    Tell.clause(y, clause);
+                }
+            }
+            checkOpenChain("open chain " + turn + ": ", y, sizes, numbers, missing);
+        }
+    }
+
+    private static int[] numbersOf30(int turn, Random random) {
+        List<Integer> all = new ArrayList<>();
+        for (int v = 1; v <= 30; v++) {
+            all.add(turn == 1 ? 31 - v : v);
+        }
+        if (turn > 1) {
+            Collections.shuffle(all, random);
+        }
+        int[] numbers = new int[31];
+        for (int v = 1; v <= 30; v++) {
+            numbers[v] = all.get(v - 1) * (turn > 1 && random.nextBoolean() ? -1 : 1);
+        }
+        return numbers;
+    }
+
+    /** Group variables first, then the links; the first clause is the one of the first group's truths 1. */
+    private static List<int[]> chain(int[] sizes, int[] numbers) {
+        List<int[]> clauses = new ArrayList<>();
+        int grouped = 0;
+        for (int size : sizes) {
+            grouped += size;
+        }
+        int first = 0;
+        for (int g = 0; g < sizes.length; g++) {
+            for (int row = 0; row < 1 << sizes[g]; row++) {
+                int[] clause = new int[sizes[g] + 2];
+                for (int k = 0; k < sizes[g]; k++) {
+                    int number = numbers[first + 1 + k];
+                    clause[k] = (row >> k & 1) == 0 ? -number : number;
+                }
+                int link = numbers[grouped + 1 + g];
+                clause[sizes[g]] = g == 0 ? link : -link;
+                clause[sizes[g] + 1] = numbers[grouped + 1 + (g + 1) % sizes.length];
+                clauses.add(clause);
+            }
+            first += sizes[g];
+        }
+        int link = numbers[grouped + 1];
+        clauses.add(new int[] {numbers[first], -link});
+        clauses.add(new int[] {-numbers[first], -link});
+        return clauses;
+    }
+
+    /** Without one clause, the first group has that clause's truths the other way, all links are 0, the others are free. */
+    private static void checkOpenChain(String run, PlanClauses x, int[] sizes, int[] numbers, int[] missing) {
+        int grouped = 0;
+        for (int size : sizes) {
+            grouped += size;
+        }
+        int[] due = new int[31];
+        Arrays.fill(due, PlanClauses.NONE);
+        for (int k = 0; k < sizes[0]; k++) {
+            due[Math.abs(missing[k])] = missing[k] > 0 ? 0 : 1;
+        }
+        for (int link = grouped + 1; link <= grouped + sizes.length; link++) {
+            due[Math.abs(numbers[link])] = numbers[link] > 0 ? 0 : 1;
+        }
+        Due.is(run + "sat", x.sat(0), 1);
+        Due.is(run + "culprit", x.culprit(), PlanClauses.NONE);
+        int free = 0;
+        for (int v = 30; v >= 1; v--) {
+            Due.is(run + "forced " + v, x.forced(v), due[v]);
+            Due.is(run + "sat " + v, x.sat(v), due[v] == 0 ? 0 : 1);
+            Due.is(run + "sat -" + v, x.sat(-v), due[v] == 1 ? 0 : 1);
+            Due.is(run + "value " + v, x.value(v), due[v] == 1 ? 1 : 0);
+            for (int i = 0; i < 60; i++) {
+                int truth = due[v] == PlanClauses.NONE ? (free < 6 ? i >> free & 1 : 0) : due[v];
+                Due.is(run + "model " + i + ", " + v, x.model(i, v), truth);
+            }
+            free += due[v] == PlanClauses.NONE ? 1 : 0;
+        }
+        Due.is(run + "models", x.models(), 60);
+    }
+
+    /**
+     * The edges of a graph are variables; an even number of them is true at each corner, but for one:
+     * as each edge has two ends, that cannot be, and each clause is needed for it.
+     */
+    private static void graphs() {
+        for (int turn = 0; turn < 12; turn++) {
+            Random random = new Random(turn);
+            int corners = turn % 3 == 0 ? 20 : turn % 3 == 1 ? 15 : 12;
+            int edgesEach = 60 / corners;
+            int[] numbers = numbersOf30(turn + 2, random);
+            List<int[]> ends = ring(corners, edgesEach, random);
+            PlanClauses x = Tell.withVariables(30);
+            for (int corner = 0; corner < corners; corner++) {
+                List<Integer> here = new ArrayList<>();
+                for (int e = 0; e < ends.size(); e++) {
+                    if (ends.get(e)[0] == corner || ends.get(e)[1] == corner) {
+                        here.add(Math.abs(numbers[e + 1]));
+                    }
+                }
+                int[] variables = new int[here.size()];
+                for (int k = 0; k < variables.length; k++) {
+                    variables[k] = here.get(k);
+                }
+                Tell.parity(x, corner == turn, variables);
+            }
+            Due.is("graph " + turn + ": none", x.sat(0), 0);
+            Due.is("graph " + turn + ": all are needed", x.culprit(), x.count(1) - 1);
+            x.drop();
+            Due.is("graph " + turn + ": without the last", x.sat(0), 1);
+            Due.is("graph " + turn + ": many", x.models(), 60);
+        }
+    }
+
+    /** A graph in which each corner has so many edges: a ring, and its corners paired by lot, no two twice. */
+    private static List<int[]> ring(int corners, int edgesEach, Random random) {
+        for (int attempt = 0; attempt < 1000000; attempt++) {
+            List<Integer> loose = new ArrayList<>();
+            List<int[]> ends = new ArrayList<>();
+            boolean[] joined = new boolean[corners * corners];
+            for (int corner = 0; corner < corners; corner++) {
+                join(corner, (corner + 1) % corners, corners, joined, ends);
+                for (int k = 2; k < edgesEach; k++) {
+                    loose.add(corner);
+                }
+            }
+            Collections.shuffle(loose, random);
+            boolean fits = true;
+            for (int i = 0; i + 1 < loose.size() && fits; i += 2) {
+                fits = join(loose.get(i), loose.get(i + 1), corners, joined, ends);
+            }
+            if (fits) {
+                return ends;
+            }
+        }
+        throw new IllegalStateException("no such graph");
+    }
+
+    private static boolean join(int one, int other, int corners, boolean[] joined, List<int[]> ends) {
+        int place = Math.min(one, other) * corners + Math.max(one, other);
+        if (one == other || joined[place]) {
+            return false;
+        }
+        joined[place] = true;
+        ends.add(new int[] {one, other});
+        return true;
+    }
+
+    /** Of 28 places, 4 in each of 7 rows and 7 columns, at least 2 in each row are 1, at least 2 in each column 0. */
+    private static void majorities() {
+        for (int turn = 0; turn < 6; turn++) {
+            int[] numbers = numbersOf30(turn + 2, new Random(turn));
+            PlanClauses x = Tell.withVariables(30);
+            for (int line = 0; line < 14; line++) {
+                int[] four = new int[4];
+                for (int k = 0; k < 4; k++) {
+                    int row = line < 7 ? line : (line - 7 + 7 - 2 * k * k % 7) % 7;
+                    int place = line < 7 ? 4 * line + k : 4 * row + k;
+                    four[k] = (line < 7 ? 1 : -1) * Math.abs(numbers[place + 1]);
+                }
+                for (int left = 0; left < 4; left++) {
+                    Tell.clause(x, four[left], four[(left + 1) % 4], four[(left + 2) % 4]);
+                }
+            }
+            Due.is("majorities " + turn + ": exactly half", x.sat(0), 1);
+            checkFirst(x, 3);
+            int[] first = {Math.abs(numbers[1]), Math.abs(numbers[2]), Math.abs(numbers[3]), Math.abs(numbers[4])};
+            for (int left = 0; left < 4; left++) {
+                for (int other = left + 1; other < 4; other++) {
+                    Due.is("majorities " + turn + ": sat", x.sat(0), 1);
+                    Tell.clause(x, first[left], first[other]);
+                }
+            }
+            Due.is("majorities " + turn + ": three of a row", x.sat(0), 0);
+            Due.is("majorities " + turn + ": culprit", x.culprit(), 61);
+        }
+    }
+
+    /** Up to 17 variables: all rows are tried. */
+    private static void byTrying() {
+        for (int turn = 0; turn < 150; turn++) {
+            Random random = new Random(turn);
+            int n = 9 + random.nextInt(9);
+            int size = 2 + random.nextInt(5);
+            int[] most = {0, 0, 1, 4, 9, 18, 30};
+            int many = Math.min(400, random.nextInt(n * most[size] + 20));
+            PlanClauses x = Tell.withVariables(n);
+            int[] trues = new int[many];
+            int[] falses = new int[many];
+            for (int i = 0; i < many; i++) {
+                for (int k = 0; k < size; k++) {
+                    int v = 1 + random.nextInt(n);
+                    boolean isTrue = random.nextBoolean();
+                    if (x.literal(isTrue ? v : -v) > 0) {
+                        trues[i] |= isTrue ? 1 << (n - v) : 0;
+                        falses[i] |= isTrue ? 0 : 1 << (n - v);
+                    }
+                }
+                x.clause();
+            }
+            checkAgainstRows("turn " + turn + ": ", x, n, trues, falses);
+        }
+    }
+
+    /** Rows are read as numbers, the first variable highest: so they are in order. */
+    private static void checkAgainstRows(String run, PlanClauses x, int n, int[] trues, int[] falses) {
+        int found = 0;
+        int everTrue = 0;
+        int everFalse = 0;
+        int furthest = 0;
+        for (int row = 0; row < 1 << n; row++) {
+            int i = 0;
+            while (i < trues.length && (row & trues[i] | ~row & falses[i]) != 0) {
+                i++;
+            }
+            furthest = Math.max(furthest, i);
+            if (i == trues.length) {
+                for (int v = 1; v <= n && found < 60; v++) {
+                    Due.is(run + "model " + found + ", " + v, x.model(found, v), row >> (n - v) & 1);
+                }
+                found++;
+                everTrue |= row;
+                everFalse |= ~row;
+            }
+        }
+        Due.is(run + "sat", x.sat(0), found > 0 ? 1 : 0);
+        Due.is(run + "models", x.models(), Math.min(60, found));
+        Due.is(run + "culprit", x.culprit(), found > 0 ? PlanClauses.NONE : furthest);
+        for (int v = 1; v <= n; v++) {
+            int canBeTrue = everTrue >> (n - v) & 1;
+            int canBeFalse = everFalse >> (n - v) & 1;
+            Due.is(run + "sat " + v, x.sat(v), canBeTrue);
+            Due.is(run + "sat -" + v, x.sat(-v), canBeFalse);
+            Due.is(run + "forced " + v, x.forced(v), canBeTrue == canBeFalse ? PlanClauses.NONE : canBeTrue);
         }
     }
 }

@@ -22,7 +22,7 @@ final class LanguageTest {
         "\\bthrow\\b", "\\btry\\b", "\\bcatch\\b", "\\bsynchronized\\b", "\\bassert\\b", "->", "::", "\\bimport\\b",
         "\\bdouble\\b", "\\bfloat\\b", "Exact\\b", "\\bequals\\b", "\\bhashCode\\b", "\\btoString\\b", "\\bpackage\\b",
     };
-    private static final String[] LIBRARY = {"Math.abs", "Math.min", "Math.max", "Integer.bitCount", "System.arraycopy"};
+    private static final String[] LIBRARY = {"Math.abs", "Math.min", "Math.max", "Integer.bitCount", "Integer.numberOfTrailingZeros", "System.arraycopy"};
     private static final int MOST_LINES = 60;
 
     private LanguageTest() {
