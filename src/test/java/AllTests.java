@@ -1,6 +1,6 @@
 import java.io.IOException;
 
-/** Runs every test of the project; its argument is the path of the program's file. */
+/** Runs every test of the project; its arguments are the paths of the program's file and of the document. */
 public final class AllTests {
     private AllTests() {
     }
@@ -8,6 +8,8 @@ public final class AllTests {
     public static void main(String[] args) throws IOException {
         ClausesTest.run();
         TasksTest.run();
+        Sentences.run(args[1], ClausesBoundsTest.class, TasksBoundsTest.class, TermsBoundsTest.class,
+            RefusalsTest.class);
         OracleTest.run();
         HardTest.run();
         RoomTest.run();

@@ -1,4 +1,4 @@
-/** Short ways to tell an object clauses. */
+/** Short ways to tell an object clauses and tasks. */
 final class Tell {
     private Tell() {
     }
@@ -9,11 +9,50 @@ final class Tell {
         return x;
     }
 
-    static void clause(PlanClauses x, int... literals) {
+    static PlanClauses withFacts(int n) {
+        PlanClauses x = new PlanClauses();
+        x.facts(n);
+        return x;
+    }
+
+    static void draft(PlanClauses x, int... literals) {
         for (int literal : literals) {
             Due.holds("literal " + literal + " is taken", x.literal(literal) > 0);
         }
+    }
+
+    static void clause(PlanClauses x, int... literals) {
+        draft(x, literals);
         Due.holds("the clause is taken", x.clause() > 0);
+    }
+
+    /** So many clauses of one literal each. */
+    static void clausesOf(PlanClauses x, int literal, int many) {
+        for (int i = 0; i < many; i++) {
+            clause(x, literal);
+        }
+    }
+
+    /** So many clauses of none. */
+    static void clausesOfNone(PlanClauses x, int many) {
+        for (int i = 0; i < many; i++) {
+            clause(x);
+        }
+    }
+
+    /** The clause that one row of truths, read as a number, the last variable lowest, makes false. */
+    static void notRow(PlanClauses x, int row, int variables) {
+        for (int v = 1; v <= variables; v++) {
+            x.literal((row >> (variables - v) & 1) == 1 ? -v : v);
+        }
+        Due.holds("the clause is taken", x.clause() > 0);
+    }
+
+    /** So many actions that ask for nothing and change nothing. */
+    static void idleActions(PlanClauses x, int many) {
+        for (int a = 0; a < many; a++) {
+            Due.holds("the action is taken", x.action(0, 0, 0) >= 0);
+        }
     }
 
     /** All clauses that together say: an even (or odd) number of these variables is true. */
