@@ -1264,11 +1264,14 @@ final class ClausesBoundsTest {
 
     @Says(promise = 12, words = "NONE: there is a MODEL of all.")
     static void culpritWithOneModel() {
-        PlanClauses x = Tell.withVariables(2);
-        Tell.clause(x, 1);
-        Tell.clause(x, -2);
-        Due.is(x.models(), 1);
-        Due.is(x.culprit(), NONE);
+        for (int row = 0; row < 4; row++) {
+            PlanClauses x = Tell.withVariables(2);
+            Tell.clause(x, row < 2 ? -1 : 1);
+            Tell.clause(x, row % 2 == 0 ? -2 : 2);
+            Due.is(x.culprit(), NONE);
+            Due.is(x.models(), 1);
+            Due.is(x.culprit(), NONE);
+        }
     }
 
     @Says(promise = 12, words = "NONE: there is a MODEL of all.")

@@ -4,7 +4,11 @@ import java.util.Collections;
 import java.util.List;
 import java.util.Random;
 
-/** Clauses on which trying row after row would not end in any useful time. */
+/**
+ * Clauses on which trying row after row would not end in any useful time. Some of these objects get more
+ * than 512 calls, beyond which the document leaves all answers free: only so can clauses be told that
+ * need much learning. If the program is ever to make use of that freedom, those tests have to go.
+ */
 final class HardTest {
     private HardTest() {
     }

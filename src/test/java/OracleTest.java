@@ -4,13 +4,15 @@ import java.util.Random;
 /** All promises: long runs of calls, each answer compared with that of Plain. */
 final class OracleTest {
     private static final int CALLS = 512;
+    /** So many calls a turn may make: the last one begins while there is room for them. */
+    private static final int MOST_OF_A_TURN = 9;
     private static final int[] FAR = {Integer.MIN_VALUE, Integer.MAX_VALUE, 1 << 30, -64, 64};
 
     private OracleTest() {
     }
 
     static void run() {
-        for (int seed = 0; seed < 300; seed++) {
+        for (int seed = 0; seed < 400; seed++) {
             clauseCalls(seed);
         }
         for (int seed = 0; seed < 150; seed++) {
@@ -37,7 +39,7 @@ final class OracleTest {
         int size = 1 + random.nextInt(4);
         String run = "clauses, seed " + seed + ": ";
         Due.is(run + "variables(" + n + ")", x.variables(n), y.variables(n));
-        for (int call = 1; call < CALLS; call++) {
+        for (int call = 1; call + MOST_OF_A_TURN <= CALLS; call++) {
             String name = run + "call " + call + " ";
             int v = number(random, -1, n + 1);
             int l = number(random, -n - 1, n + 1);
@@ -71,6 +73,7 @@ final class OracleTest {
                 case 8:
                     boolean none = y.models() == 0;
                     for (int many = random.nextInt(none ? 6 : 2); many > 0; many--) {
+                        call++;
                         Due.is(name + "drop()", x.drop(), y.drop());
                     }
                     break;
@@ -83,6 +86,7 @@ final class OracleTest {
                 default:
                     for (int many = random.nextInt(8) == 0 ? 7 : size; many > 0; many--) {
                         int one = number(random, -n, n);
+                        call++;
                         Due.is(name + "literal(" + one + ")", x.literal(one), y.literal(one));
                     }
                     if (y.count(2) > 0 || random.nextInt(40) == 0) {

@@ -34,7 +34,12 @@ final class Sentences {
                 }
             }
         }
-        compare(quoted, Files.readString(Path.of(document)).replaceAll("\\s+", " "));
+        Path path = Path.of(document);
+        if (Files.isReadable(path)) {
+            compare(quoted, Files.readString(path).replaceAll("\\s+", " "));
+        } else {
+            System.out.println("no document at " + document + ": the tests' quotes are not compared with it");
+        }
     }
 
     private static void call(Method method, Says says) {

@@ -93,14 +93,20 @@ final class TasksBoundsTest {
     static void factsLeaveNoActions() {
         for (int n = 0; n <= 6; n++) {
             PlanClauses x = Tell.withFacts(6);
-            Tell.idleActions(x, 5);
+            for (int a = 0; a < 5; a++) {
+                x.action(0, a % 2 == 0 ? 63 : 0, 63);
+            }
             Due.is(x.plans(1), 6);
             x.facts(n);
             Due.is(x.count(4), 0);
             Due.is(x.plans(1), 1);
             Due.is(x.step(1, 0), NOTHING);
             Due.is(x.code(1, 0), 2 * n);
+            Due.is(x.code(1, 1), 3 * n);
+            Due.is(x.code(1, 2), 5 * n);
             Due.is(x.action(0, 0, 0), 0);
+            Due.is(x.state(1, 1), 0);
+            Due.is(x.code(1, 2), 5 * n);
         }
     }
 

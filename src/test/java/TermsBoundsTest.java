@@ -181,6 +181,34 @@ final class TermsBoundsTest {
         }
     }
 
+    /** The variable that most clauses have is neither the first nor the last. */
+    @Says(promise = Sentences.TERMS, words = "that with 0 at the first VARIABLE at which they differ is less.")
+    static void modelsInOrderWhicheverVariableWeighsMost() {
+        int[][] due = {{0, 1, 0, 0}, {0, 1, 0, 1}, {0, 1, 1, 0}, {0, 1, 1, 1}, {1, 0, 1, 1}, {1, 1, 0, 0}};
+        PlanClauses x = Tell.withVariables(4);
+        Tell.clause(x, 1, 2);
+        Tell.clause(x, 2, 3);
+        Tell.clause(x, 2, 4);
+        for (int i = 0; i < due.length; i++) {
+            for (int v = 1; v <= 4; v++) {
+                Due.is(x.model(i, v), due[i][v - 1]);
+            }
+        }
+        Due.is(x.models(), 9);
+        PlanClauses y = Tell.withVariables(4);
+        Tell.clause(y, 1, -2);
+        Tell.clause(y, -1, -3);
+        Tell.clause(y, 3, -2);
+        Tell.clause(y, 4, 2);
+        int[][] others = {{0, 0, 0, 1}, {0, 0, 1, 1}, {1, 0, 0, 1}};
+        for (int i = 0; i < others.length; i++) {
+            for (int v = 1; v <= 4; v++) {
+                Due.is(y.model(i, v), others[i][v - 1]);
+            }
+        }
+        Due.is(y.models(), 3);
+    }
+
     // ---- facts, actions, states
 
     @Says(promise = Sentences.TERMS, words = "A TASK has FACTS 0 .. 5 (as many as are told)")
