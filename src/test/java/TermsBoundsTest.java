@@ -131,6 +131,23 @@ final class TermsBoundsTest {
         Due.is(x.culprit(), 6);
     }
 
+    /** Each row but one makes the clause true, whichever it is. */
+    @Says(promise = Sentences.TERMS, words = "with which each CLAUSE has a LITERAL that is true")
+    static void modelsOfAClauseOfSixAlone() {
+        for (int row = 0; row < 64; row++) {
+            PlanClauses x = Tell.withVariables(6);
+            Tell.notRow(x, row, 6);
+            int first = row == 0 ? 1 : 0;
+            int second = row <= 1 ? 2 : 1;
+            for (int v = 1; v <= 6; v++) {
+                Due.is(x.value(v), first >> (6 - v) & 1);
+                Due.is(x.model(1, v), second >> (6 - v) & 1);
+            }
+            Due.is(x.models(), 60);
+            Due.is(x.sat(0), 1);
+        }
+    }
+
     @Says(promise = Sentences.TERMS, words = "that is true (v: its truth is 1; -v: 0).")
     static void modelsOfEachRow() {
         for (int row = 0; row < 16; row++) {
