@@ -1,6 +1,6 @@
 import java.io.IOException;
 
-/** Runs every test of the project; its arguments are the paths of the program's file and of the document. */
+/** Runs every test of the project; its arguments are the paths of the program's file, the document and the README. */
 public final class AllTests {
     private AllTests() {
     }
@@ -14,6 +14,7 @@ public final class AllTests {
         HardTest.run();
         RoomTest.run();
         LanguageTest.run(args[0]);
+        ReadmeTest.run(args[2]);
         System.out.println(Due.asked() + " answers asked, " + Due.wrong() + " wrong");
         if (Due.wrong() > 0) {
             System.exit(1);
